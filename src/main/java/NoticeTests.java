@@ -23,9 +23,9 @@ public final class NoticeTests {
     private static final int WORDS = 8;
     private static final int WORD_BITS = 64;
 
-    /** Rows of Results: those of both TEXTS, then those by each CHANGE. */
-    private static final int FIRST_ROW = 0;
-    private static final int SECOND_ROW = 1;
+    /** TEXTS 0 and 1, and their rows of Results; those by each CHANGE come behind them. */
+    private static final int FIRST = 0;
+    private static final int SECOND = 1;
     private static final int CHANGE_ROWS = 2;
 
     private static final String ACTS = "+-*mM";
@@ -56,8 +56,8 @@ public final class NoticeTests {
         blames = new Blames(tests, worker);
         mends = new Mends(changes, tests, results);
         parting = new Parting(results);
-        settleText(FIRST_ROW);
-        settleText(SECOND_ROW);
+        settleText(FIRST);
+        settleText(SECOND);
     }
 
     // ---- 1 texts
@@ -182,7 +182,7 @@ public final class NoticeTests {
         switch (what) {
             case 0: return tests.inputs[test];
             case 1: return tests.dues[test];
-            case 2: return tests.failsFor(test, FIRST_ROW) ? 1 : 0;
+            case 2: return tests.failsFor(test, FIRST) ? 1 : 0;
             case 3: return notices.howManyNoticedBy(test);
             default: return OUTSIDE;
         }
@@ -239,7 +239,7 @@ public final class NoticeTests {
         if (!isPart(part)) {
             return OUTSIDE;
         }
-        blames.weigh(texts[FIRST_ROW]);
+        blames.weigh(texts[FIRST]);
         return inLowestTerms(blames.uppers[node], blames.lowers[node], part);
     }
 
@@ -247,8 +247,8 @@ public final class NoticeTests {
         if (!isNodeOfFirst(i)) {
             return NONE;
         }
-        blames.weigh(texts[FIRST_ROW]);
-        return blames.nodeAtPlace(i, texts[FIRST_ROW].count);
+        blames.weigh(texts[FIRST]);
+        return blames.nodeAtPlace(i, texts[FIRST].count);
     }
 
     public int mend(int i) {
@@ -269,7 +269,7 @@ public final class NoticeTests {
 
     public int parts(int what) {
         switch (what) {
-            case 0: return results.unlikeMany(FIRST_ROW, SECOND_ROW);
+            case 0: return results.unlikeMany(FIRST, SECOND);
             case 1: return parting.leastInputs();
             default: return OUTSIDE;
         }
@@ -289,8 +289,8 @@ public final class NoticeTests {
     public int told(int what) {
         switch (what) {
             case 0: return pad.count;
-            case 1: return texts[FIRST_ROW].count;
-            case 2: return texts[SECOND_ROW].count;
+            case 1: return texts[FIRST].count;
+            case 2: return texts[SECOND].count;
             case 3: return tests.count;
             case 4: return tests.failing();
             default: return OUTSIDE;
@@ -301,7 +301,7 @@ public final class NoticeTests {
 
     private void settleText(int text) {
         results.workOutText(text, texts[text]);
-        if (text == FIRST_ROW) {
+        if (text == FIRST) {
             changes.list(texts[text]);
             settleNotices();
         }
@@ -313,11 +313,11 @@ public final class NoticeTests {
     }
 
     private boolean isText(int text) {
-        return text == FIRST_ROW || text == SECOND_ROW;
+        return text == FIRST || text == SECOND;
     }
 
     private boolean isNodeOfFirst(int node) {
-        return node >= 0 && node < texts[FIRST_ROW].count;
+        return node >= 0 && node < texts[FIRST].count;
     }
 
     private boolean isChange(int change) {
@@ -417,7 +417,6 @@ public final class NoticeTests {
         void take(int[] written, int number) {
             count = number;
             System.arraycopy(written, 0, signs, 0, number);
-            owners[0] = NONE;
             // Backwards, since the span of a NODE needs those of its parts, which come later.
             for (int node = number - 1; node >= 0; node--) {
                 joinParts(node);
@@ -660,7 +659,7 @@ public final class NoticeTests {
             }
             for (int i = 0; i < count; i++) {
                 results.workOutChanged(CHANGE_ROWS + i, text, nodes[i], signs[i]);
-                felt[i] = results.unlikeMany(CHANGE_ROWS + i, FIRST_ROW);
+                felt[i] = results.unlikeMany(CHANGE_ROWS + i, FIRST);
             }
         }
 
@@ -738,7 +737,7 @@ public final class NoticeTests {
         int failing() {
             int many = 0;
             for (int i = 0; i < count; i++) {
-                many += failsFor(i, FIRST_ROW) ? 1 : 0;
+                many += failsFor(i, FIRST) ? 1 : 0;
             }
             return many;
         }
@@ -779,7 +778,7 @@ public final class NoticeTests {
         private int testsThatNotice(int change) {
             int set = 0;
             for (int t = 0; t < tests.count; t++) {
-                if (results.isUnlikeAt(CHANGE_ROWS + change, FIRST_ROW, tests.inputs[t])) {
+                if (results.isUnlikeAt(CHANGE_ROWS + change, FIRST, tests.inputs[t])) {
                     set |= 1 << t;
                 }
             }
@@ -847,7 +846,7 @@ public final class NoticeTests {
             int gathered = 0;
             for (int i = 0; i < changes.count; i++) {
                 if (isHidden(i)) {
-                    hiddenUnlike[gathered] = results.unlike(CHANGE_ROWS + i, FIRST_ROW, word);
+                    hiddenUnlike[gathered] = results.unlike(CHANGE_ROWS + i, FIRST, word);
                     gathered++;
                 }
             }
@@ -874,10 +873,11 @@ public final class NoticeTests {
         private static final int TOO_MANY = 1_000_000;
 
         /**
-         * By the set of TESTS that have not had their turn: the least sum, over these turns from
-         * the last one made on, of how many NOTICED CHANGES still wait after it. A CHANGE waits
-         * after as many turns as the place of its first TEST tells, so this is SOON's sum.
-         * Made as large as is needed: most objects never need all sets of 14.
+         * By the set of TESTS that are still to come: how many NOTICED CHANGES wait for them, and
+         * how many wait after each later turn, by the order that makes this sum least. A CHANGE
+         * waits after as many turns as the place of its first TEST tells: the sum after the first
+         * turn is SOON's. It is 0 just if none waits: the others then notice all, as for FEWEST.
+         * As large as is needed so far, since most objects never need all sets of 14.
          */
         private int[] waits = new int[1];
         private final int[] order = new int[MOST_TESTS];
@@ -928,7 +928,7 @@ public final class NoticeTests {
             fresh = true;
         }
 
-        /** A CHANGE waits, as long as all TESTS that notice it are in the set. */
+        /** A CHANGE waits, as long as all TESTS that notice it are still to come. */
         private void countWaiting(int sets) {
             for (int rest = 0; rest < sets; rest++) {
                 waits[rest] = 0;
@@ -969,20 +969,16 @@ public final class NoticeTests {
             return best;
         }
 
-        /** None waits after a set, just if nothing waits in any later turn either. */
+        /** The sets come as bits from the least one on, so the first of several stays. */
         private void findSet(int sets) {
             int all = sets - 1;
             set = all;
             for (int some = 0; some < sets; some++) {
-                if (waits[all ^ some] == 0 && isBetter(some)) {
+                boolean noticesAll = waits[all ^ some] == 0;
+                if (noticesAll && Integer.bitCount(some) < Integer.bitCount(set)) {
                     set = some;
                 }
             }
-        }
-
-        private boolean isBetter(int some) {
-            int difference = Integer.bitCount(some) - Integer.bitCount(set);
-            return difference < 0 || (difference == 0 && some < set);
         }
 
         private void findOrder(int sets) {
@@ -1038,7 +1034,7 @@ public final class NoticeTests {
         private int countRuns(int node, boolean ofFailing) {
             int many = 0;
             for (int t = 0; t < tests.count; t++) {
-                if (tests.failsFor(t, FIRST_ROW) == ofFailing) {
+                if (tests.failsFor(t, FIRST) == ofFailing) {
                     many += (runBits[t] >>> node) & 1;
                 }
             }
@@ -1126,7 +1122,7 @@ public final class NoticeTests {
         }
 
         boolean isAt(int inputs) {
-            return results.isUnlikeAt(FIRST_ROW, SECOND_ROW, inputs);
+            return results.isUnlikeAt(FIRST, SECOND, inputs);
         }
 
         int leastInputs() {

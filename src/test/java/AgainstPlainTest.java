@@ -4,7 +4,7 @@ import java.util.Random;
 
 /** Runs of drawn calls, the same ones each time, on the class and on PlainModel. */
 public final class AgainstPlainTest {
-    private static final int RUNS = 240;
+    private static final int RUNS = 160;
     private static final int CALLS = 400;
 
     private final Random random;
