@@ -14,6 +14,7 @@ public final class PromisesTest {
         fault();
         read();
         readLimits();
+        readShorter();
         node();
         result();
         runs();
@@ -245,6 +246,28 @@ public final class PromisesTest {
         due("the TEXT stays", x.told(1), 23);
         x.say('a');
         due("NO is ahead of FULL", x.read(0), NO);
+    }
+
+    /** Nothing of a longer TEXT is left, when a shorter one has been read. */
+    private static void readShorter() {
+        NoticeTests x = of("m11", "0");
+        lay(x, "0");
+        due("read(0)", x.read(0), 1);
+        manyAre(x, 0, 0, 2, 0);
+        wishedIs(x, 0, 2);
+        x.test(0, 1);
+        manyAre(x, 0, 2, 0, 2);
+        due("of(0, 3)", x.of(0, 3), 2);
+        due("change(0, 5)", x.change(0, 5), 0);
+        mendsAre(x, 1, 0);
+        ranksAre(x, 0);
+        NoticeTests noticed = of("+ab", "0");
+        noticed.test(inputs(1, 0, 0), 1);
+        lay(noticed, "c");
+        noticed.read(0);
+        manyAre(noticed, 0, 1, 1, 1);
+        soonIs(noticed, 0, 0);
+        fewestIs(noticed, 1, 1);
     }
 
     private static void node() {
