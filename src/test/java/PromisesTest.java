@@ -1,12 +1,5 @@
 /** Each promise of the document by hand: ordinary inputs, the edges it names, wrong inputs. */
-public final class PromisesTest {
-    private static final int UNKNOWN = -1, OUTSIDE = -2, STATE = -3, FULL = -4, NO = -5, NONE = -6;
-    private static final int[] FAR = {Integer.MIN_VALUE, -1000, 1000, Integer.MAX_VALUE};
-
-    private static int promise = 0;
-    private static int wrong = 0;
-    private static int asked = 0;
-
+public final class PromisesTest extends Answers {
     public static void main(String[] args) {
         newObject();
         say();
@@ -36,44 +29,13 @@ public final class PromisesTest {
         less();
         told();
         refusedChangesNothing();
-        System.out.println(asked + " answers looked at, " + wrong + " not as due");
-        if (wrong > 0) {
-            System.exit(1);
-        }
-    }
-
-    private static void due(String call, int got, int want) {
-        asked++;
-        if (got != want) {
-            wrong++;
-            System.out.println("promise " + promise + ": " + call + " answered " + got + ", due is " + want);
-        }
-    }
-
-    private static void lay(NoticeTests x, String signs) {
-        x.wipe();
-        for (char sign : signs.toCharArray()) {
-            x.say(sign);
-        }
-    }
-
-    private static NoticeTests of(String first, String second) {
-        NoticeTests x = new NoticeTests();
-        lay(x, first);
-        due("read(0) of " + first, x.read(0), first.length());
-        lay(x, second);
-        due("read(1) of " + second, x.read(1), second.length());
-        return x;
-    }
-
-    private static int inputs(int a, int b, int c) {
-        return 64 * a + 8 * b + c;
+        end();
     }
 
     // ---- 1 texts
 
     private static void newObject() {
-        promise = 1;
+        about("promise 1");
         NoticeTests x = new NoticeTests();
         int[] told = {0, 1, 1, 0, 0};
         for (int what = 0; what < told.length; what++) {
@@ -107,7 +69,7 @@ public final class PromisesTest {
     }
 
     private static void say() {
-        promise = 2;
+        about("promise 2");
         NoticeTests x = new NoticeTests();
         due("say(33)", x.say(33), 1);
         due("say(126)", x.say(126), 2);
@@ -129,7 +91,7 @@ public final class PromisesTest {
     }
 
     private static void wipe() {
-        promise = 3;
+        about("promise 3");
         NoticeTests x = new NoticeTests();
         due("wipe()", x.wipe(), 0);
         lay(x, "+ab");
@@ -151,7 +113,7 @@ public final class PromisesTest {
     }
 
     private static void fault() {
-        promise = 4;
+        about("promise 4");
         faultOf("", 0);
         for (String whole : new String[] {"a", "b", "c", "0", "7", "+ab", "-a1", "*00", "mab", "Mcc", "<ab12", ">ab12", "=ab12"}) {
             faultOf(whole, NONE);
@@ -195,7 +157,7 @@ public final class PromisesTest {
     }
 
     private static void read() {
-        promise = 5;
+        about("promise 5");
         NoticeTests x = new NoticeTests();
         due("nothing to read", x.read(0), NO);
         lay(x, "+a");
@@ -271,7 +233,7 @@ public final class PromisesTest {
     }
 
     private static void node() {
-        promise = 6;
+        about("promise 6");
         NoticeTests x = of("<*ab3=c12+a4-b5", "M1a");
         String signs = "<*ab3=c12+a4-b5";
         int[] owners = {NONE, 0, 1, 1, 0, 0, 5, 5, 5, 5, 9, 9, 0, 12, 12};
@@ -300,14 +262,9 @@ public final class PromisesTest {
     }
 
     private static void result() {
-        promise = 7;
-        NoticeTests inputs = of("a", "b");
-        NoticeTests third = of("c", "5");
-        for (int i = 0; i < 512; i++) {
-            due("a", inputs.result(0, i), i / 64);
-            due("b", inputs.result(1, i), i / 8 % 8);
-            due("c", third.result(0, i), i % 8);
-            due("5", third.result(1, i), 5);
+        about("promise 7");
+        for (int a = 0; a < 8; a++) {
+            resultsOfLeaves(a);
         }
         NoticeTests sums = of("+ab", "-ab");
         NoticeTests others = of("*ab", "mab");
@@ -342,8 +299,20 @@ public final class PromisesTest {
         due("within", deep.result(1, inputs(2, 1, 1)), 3);
     }
 
+    /** Objects anew for each a, since one is not used for more than 512 calls. */
+    private static void resultsOfLeaves(int a) {
+        NoticeTests x = of("a", "b");
+        NoticeTests third = of("c", "5");
+        for (int i = 64 * a; i < 64 * a + 64; i++) {
+            due("a", x.result(0, i), i / 64);
+            due("b", x.result(1, i), i / 8 % 8);
+            due("c", third.result(0, i), i % 8);
+            due("5", third.result(1, i), 5);
+        }
+    }
+
     private static void runs() {
-        promise = 8;
+        about("promise 8");
         NoticeTests x = of("<ab<bc123", "+=ab10M>bc23<ac45");
         due("third, third", x.runs(0, inputs(0, 1, 2)), 0b001111111);
         due("third, fourth", x.runs(0, inputs(0, 2, 1)), 0b010111111);
@@ -368,7 +337,7 @@ public final class PromisesTest {
     // ---- 2 changes, tests
 
     private static void change() {
-        promise = 9;
+        about("promise 9");
         NoticeTests x = of("<a3-bc2", "0");
         int[] nodes = {0, 0, 1, 1, 2, 2, 3, 3, 3, 3, 4, 4, 5, 5, 6, 6};
         String signs = ">=bc42+*mMacab31";
@@ -411,18 +380,8 @@ public final class PromisesTest {
         }
     }
 
-    /** a + b; NOTICED by TESTS 0 to 3: - 2 3, * 1 2 3, m 1 2 3, M 3, bb 1 2, cb 1, aa 1 2, ac 2. */
-    private static NoticeTests sumWithTests() {
-        NoticeTests x = of("+ab", "0");
-        x.test(0, 0);
-        x.test(inputs(1, 0, 0), 1);
-        x.test(inputs(0, 1, 0), 1);
-        x.test(inputs(1, 1, 1), 2);
-        return x;
-    }
-
     private static void changeNoticed() {
-        promise = 9;
+        about("promise 9");
         NoticeTests x = sumWithTests();
         int[] bits = {12, 14, 14, 8, 6, 2, 6, 4};
         int[] behind = {2, 6, 6, 0, 2, 0, 2, 0};
@@ -443,7 +402,7 @@ public final class PromisesTest {
     }
 
     private static void by() {
-        promise = 10;
+        about("promise 10");
         NoticeTests x = of("<a3-bc2", "0");
         due("a > 3", x.by(0, inputs(1, 5, 1)), 2);
         due("a > 3", x.by(0, inputs(4, 5, 1)), 4);
@@ -466,7 +425,7 @@ public final class PromisesTest {
     }
 
     private static void test() {
-        promise = 11;
+        about("promise 11");
         NoticeTests x = new NoticeTests();
         for (int i = 0; i < 14; i++) {
             due("test(511, 7)", x.test(511 - i, i % 8), i);
@@ -490,7 +449,7 @@ public final class PromisesTest {
     }
 
     private static void drop() {
-        promise = 12;
+        about("promise 12");
         NoticeTests x = new NoticeTests();
         due("drop(0)", x.drop(0), UNKNOWN);
         for (int i = 0; i < 14; i++) {
@@ -515,7 +474,7 @@ public final class PromisesTest {
     }
 
     private static void of() {
-        promise = 13;
+        about("promise 13");
         NoticeTests x = sumWithTests();
         int[] noticed = {0, 5, 6, 4};
         for (int i = 0; i < 4; i++) {
@@ -538,15 +497,8 @@ public final class PromisesTest {
         }
     }
 
-    private static void manyAre(NoticeTests x, int silent, int noticed, int hidden, int front) {
-        due("many(0)", x.many(0), silent);
-        due("many(1)", x.many(1), noticed);
-        due("many(2)", x.many(2), hidden);
-        due("many(3)", x.many(3), front);
-    }
-
     private static void many() {
-        promise = 14;
+        about("promise 14");
         NoticeTests x = sumWithTests();
         manyAre(x, 0, 8, 0, 3);
         x.drop(1);
@@ -566,13 +518,8 @@ public final class PromisesTest {
         }
     }
 
-    private static void scoreIs(NoticeTests x, int upper, int lower) {
-        due("score(0)", x.score(0), upper);
-        due("score(1)", x.score(1), lower);
-    }
-
     private static void score() {
-        promise = 15;
+        about("promise 15");
         NoticeTests x = sumWithTests();
         scoreIs(x, 1, 1);
         x.drop(1);
@@ -594,13 +541,8 @@ public final class PromisesTest {
 
     // ---- 3 fewer tests
 
-    private static void fewestIs(NoticeTests x, int set, int many) {
-        due("fewest(0)", x.fewest(0), set);
-        due("fewest(1)", x.fewest(1), many);
-    }
-
     private static void fewest() {
-        promise = 16;
+        about("promise 16");
         NoticeTests x = sumWithTests();
         fewestIs(x, 14, 3);
         // (3, 1, 2) gives 4: all but M and *, which are 3; none of the others alone notices these two.
@@ -631,16 +573,8 @@ public final class PromisesTest {
         }
     }
 
-    private static void soonIs(NoticeTests x, int sum, int... order) {
-        due("soon(-1)", x.soon(-1), sum);
-        for (int i = 0; i < order.length; i++) {
-            due("soon(" + i + ")", x.soon(i), order[i]);
-        }
-        due("soon after the last", x.soon(order.length), NONE);
-    }
-
     private static void soon() {
-        promise = 17;
+        about("promise 17");
         soonIs(new NoticeTests(), 0);
         NoticeTests x = sumWithTests();
         // After TEST 2 two wait, M and cb; after 2 and one of 1, 3 one of them.
@@ -682,13 +616,8 @@ public final class PromisesTest {
         soonIs(x, 1, 11, 12, 0, 1, 2, 3, 4, 5, 6, 7, 8, 9, 10);
     }
 
-    private static void wishedIs(NoticeTests x, int inputs, int many) {
-        due("wished(0)", x.wished(0), inputs);
-        due("wished(1)", x.wished(1), many);
-    }
-
     private static void wished() {
-        promise = 18;
+        about("promise 18");
         wishedIs(new NoticeTests(), 0, 2);
         NoticeTests same = of("maa", "0");
         wishedIs(same, inputs(2, 0, 0), 7);
@@ -717,15 +646,8 @@ public final class PromisesTest {
 
     // ---- 4 blame, mends
 
-    private static void blamesAre(NoticeTests x, int... uppersAndLowers) {
-        for (int node = 0; 2 * node < uppersAndLowers.length; node++) {
-            due("blame(" + node + ", 0)", x.blame(node, 0), uppersAndLowers[2 * node]);
-            due("blame(" + node + ", 1)", x.blame(node, 1), uppersAndLowers[2 * node + 1]);
-        }
-    }
-
     private static void blame() {
-        promise = 19;
+        about("promise 19");
         NoticeTests x = of("<a3bc", "0");
         blamesAre(x, 0, 1, 0, 1, 0, 1, 0, 1, 0, 1);
         x.test(inputs(0, 1, 2), 1);
@@ -756,15 +678,8 @@ public final class PromisesTest {
         }
     }
 
-    private static void ranksAre(NoticeTests x, int... nodes) {
-        for (int i = 0; i < nodes.length; i++) {
-            due("rank(" + i + ")", x.rank(i), nodes[i]);
-        }
-        due("rank after the last", x.rank(nodes.length), NONE);
-    }
-
     private static void rank() {
-        promise = 20;
+        about("promise 20");
         NoticeTests x = of("<a3bc", "0");
         ranksAre(x, 0, 1, 2, 3, 4);
         x.test(inputs(0, 1, 2), 1);
@@ -787,18 +702,8 @@ public final class PromisesTest {
         }
     }
 
-    private static void mendsAre(NoticeTests x, int kinds, int... changes) {
-        due("mend(-1)", x.mend(-1), changes.length);
-        due("mend(-2)", x.mend(-2), kinds);
-        for (int i = 0; i < changes.length; i++) {
-            due("mend(" + i + ")", x.mend(i), changes[i]);
-        }
-        due("mend after the last", x.mend(changes.length), NONE);
-        due("mend(-3)", x.mend(-3), NONE);
-    }
-
     private static void mend() {
-        promise = 21;
+        about("promise 21");
         NoticeTests x = of("<a3bc", "0");
         int[] asked = {-3, -2, -1, 0, 1, 1000, Integer.MIN_VALUE, Integer.MAX_VALUE};
         for (int i : asked) {
@@ -835,7 +740,7 @@ public final class PromisesTest {
     // ---- 5 parting inputs
 
     private static void parts() {
-        promise = 22;
+        about("promise 22");
         NoticeTests x = of("a", "b");
         due("parts(0)", x.parts(0), 448);
         due("8 and 64 are 1 together", x.parts(1), 8);
@@ -858,13 +763,8 @@ public final class PromisesTest {
         }
     }
 
-    private static void lessIs(NoticeTests x, int from, int end, int steps) {
-        due("less(" + from + ", 0)", x.less(from, 0), end);
-        due("less(" + from + ", 1)", x.less(from, 1), steps);
-    }
-
     private static void less() {
-        promise = 23;
+        about("promise 23");
         NoticeTests x = of("1", "0");
         lessIs(x, 511, 0, 3);
         lessIs(x, 0, 0, 0);
@@ -910,7 +810,7 @@ public final class PromisesTest {
     }
 
     private static void told() {
-        promise = 24;
+        about("promise 24");
         NoticeTests x = of("+ab", "<a3bc");
         x.say('a');
         x.say('~');
@@ -932,7 +832,7 @@ public final class PromisesTest {
     }
 
     private static void refusedChangesNothing() {
-        promise = 0;
+        about("refused calls");
         NoticeTests x = sumWithTests();
         x.say('+');
         x.read(0);
