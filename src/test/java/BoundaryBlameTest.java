@@ -174,6 +174,15 @@ public final class BoundaryBlameTest extends Boundaries {
         ranksAre(x, 4, 0, 1, 2, 3);
     }
 
+    @Sentence(promise = 20, says = "the greatest first, then numbers")
+    static void aNodeThatNoTestRunsComesLast() {
+        NoticeTests x = choice();
+        x.test(inputs(3, 1, 2), 7);
+        x.test(inputs(4, 1, 2), 2);
+        // NODE 3 is RUN by none: 0 by (0 and 0).
+        ranksAre(x, 0, 1, 2, 4, 3);
+    }
+
     // ---- promise 21: mend
 
     @Sentence(promise = 21, says = "STATE: no TEST FAILS.")
